@@ -116,6 +116,11 @@ public final class CoursesTest {
         x.drops(0, 7);
         DUE.is("3: lost as a set", x.told(0, 3), 128);
         DUE.is("3: holds", x.told(0, 4), 127);
+        x.knit(CABLE, 3);
+        x.knit(DARN, 3);
+        DUE.is("3: the lowest holds", x.told(0, 4), 127);
+        DUE.is("3: the one on it", x.told(1, 4), 0b10111111);
+        DUE.is("3: the highest", x.told(2, 4), 255);
     }
 
     private static void promise3Wears() {
@@ -191,6 +196,8 @@ public final class CoursesTest {
         DUE.is("6: wear", x.set(0, 2, 99), 0);
         DUE.is("6: wear above what it bears may be set", x.set(0, 2, 98), 99);
         DUE.is("6: wear now", x.told(0, 2), 98);
+        DUE.is("6: wear", x.set(0, 2, 0), 98);
+        DUE.is("6: wear", x.set(0, 2, 98), 0);
         int[][] bad = {{0, 1, 0}, {0, 1, 10}, {0, 2, -1}, {0, 2, 100}, {0, 0, 1}, {0, 3, 1}, {1, 1, 1}, {-1, 2, 1}};
         for (int[] b : bad) {
             DUE.is("6: set(" + b[0] + ", " + b[1] + ", " + b[2] + ")", x.set(b[0], b[1], b[2]), KnitStreets.BAD);

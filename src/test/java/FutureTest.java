@@ -8,6 +8,7 @@ public final class FutureTest {
         promise20();
         promise21And22();
         promise21Least();
+        promise21Best();
         promise23();
         beyondTheLastNight();
         nothingChanges();
@@ -165,6 +166,27 @@ public final class FutureTest {
         DUE.is("21: all hold", x.thick(0, 5, 1), 8);
         DUE.is("22: of several the least", x.becomes(0, 5, 0), 0);
         DUE.is("22: all hold", x.becomes(0, 5, 1), 8);
+    }
+
+    /** With 27 a walk, 81 a night, GAUGE 9 alone bears the first night; of two nights a DARN alone. */
+    private static void promise21Best() {
+        KnitStreets x = dealt(1, 0);
+        x.knit(0, 1);
+        x.rule(0, 0);
+        x.rule(1, 0);
+        x.rule(2, 0);
+        TextsTest.tell(x, "wear 27");
+        DUE.is("21: the thickest", x.thick(0, 1, 0), 9);
+        DUE.is("21: all hold", x.thick(0, 1, 1), 8);
+        TextsTest.tell(x, "wear (g<5)*99+(g=5)*20+(g>5)*99");
+        DUE.is("21: 20, 40, 60 with gauge 5, 99 with all others", x.thick(0, 1, 0), 5);
+        DUE.is("21: one ran", x.thick(0, 1, 1), 7);
+        x.set(0, 1, 4);
+        TextsTest.tell(x, "wear 27");
+        DUE.is("22: a darn", x.becomes(0, 2, 0), 5);
+        DUE.is("22: all hold", x.becomes(0, 2, 1), 8);
+        DUE.is("22: it is what it was", x.told(0, 0), 0);
+        DUE.is("21: it is as it was", x.told(0, 1), 4);
     }
 
     private static void promise23() {

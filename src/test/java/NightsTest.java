@@ -4,7 +4,9 @@ public final class NightsTest {
 
     public static void main(String[] args) {
         knitsWithoutCourses();
+        knitsBySeeds();
         knitsWhenFull();
+        chances();
         walks();
         wearsOut();
         wearIsHeldAt99();
@@ -36,6 +38,72 @@ public final class NightsTest {
         DUE.is("12: gauge", x.told(0, 1), gauge);
         DUE.is("12: it is walked in the same night", x.town(0), 3);
         DUE.is("12: the night", x.count(1), 1);
+    }
+
+    private static void knitsBySeeds() {
+        for (int z = 0; z < 20; z++) {
+            KnitStreets x = ruled(100, 0, 0);
+            TextsTest.tell(x, "wear 0");
+            x.seed(z);
+            Draws draws = new Draws(z);
+            draws.next();
+            x.nights(1);
+            DUE.is("12: kind by " + z, x.told(0, 0), draws.rest(6));
+            DUE.is("12: gauge by " + z, x.told(0, 1), 1 + draws.rest(9));
+            DUE.is("12: none is lost by " + z, x.town(4), x.town(1));
+        }
+    }
+
+    /** Below, not at, what the rule is: by the rest of the draw by 100. */
+    private static void chances() {
+        for (int z = 0; z < 40; z++) {
+            int rest = new Draws(z).rest(100);
+            DUE.is("12: knits at " + rest, after(z, rest, 0, 0).count(0), 0);
+            DUE.is("12: knits below " + (rest + 1), after(z, rest + 1, 0, 0).count(0), 1);
+            Draws draws = new Draws(z);
+            draws.next();
+            rest = draws.rest(100);
+            // without courses these two are the second and the third draw of the night
+            DUE.is("12: no moths at " + rest, after(z, 0, rest, 0).count(8), drawn(z, 3));
+            KnitStreets one = ruled(0, 0, 0);
+            one.knit(5, 9);
+            one.drops(0, 3);
+            one.seed(z);
+            Draws night = new Draws(z);
+            for (int i = 0; i < 7; i++) {
+                night.next();
+            }
+            int moths = night.rest(100), mends = night.rest(100);
+            one.rule(1, moths);
+            one.rule(2, mends);
+            one.nights(1);
+            DUE.is("12: neither at " + moths + ", " + mends, one.told(0, 3), 8);
+            one = ruled(0, 0, mends + 1);
+            one.knit(5, 9);
+            one.drops(0, 3);
+            one.seed(z);
+            one.nights(1);
+            DUE.is("12: mends below " + (mends + 1), one.told(0, 3), 0);
+            one = ruled(0, moths + 1, 0);
+            one.knit(5, 9);
+            one.seed(z);
+            DUE.is("12: moths below " + (moths + 1), one.nights(1), 1);
+        }
+    }
+
+    private static KnitStreets after(int z, int knits, int moths, int mends) {
+        KnitStreets x = ruled(knits, moths, mends);
+        x.seed(z);
+        x.nights(1);
+        return x;
+    }
+
+    private static int drawn(int z, int many) {
+        Draws draws = new Draws(z);
+        for (int i = 0; i < many; i++) {
+            draws.next();
+        }
+        return draws.z;
     }
 
     private static void knitsWhenFull() {

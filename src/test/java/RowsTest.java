@@ -10,6 +10,7 @@ public final class RowsTest {
         promise41LastNight();
         promise42And43();
         promise43Texts();
+        promise43Anew();
         promise43Stays();
         promise44();
         DUE.end();
@@ -201,6 +202,18 @@ public final class RowsTest {
         DUE.is("43: three", x.count(5), 3);
         DUE.is("43: the third", x.textTold(2, 1), 3);
         DUE.is("43: room again", TextsTest.tell(x, "fee 0"), 3);
+    }
+
+    private static void promise43Anew() {
+        KnitStreets x = new KnitStreets();
+        x.keep();
+        x.knit(3, 9);
+        x.set(0, 2, 70);
+        x.drops(0, 3);
+        x.back();
+        x.knit(1, 2);
+        DUE.is("43: a course that comes then has no wear", x.told(0, 2), 0);
+        DUE.is("43: and is whole", x.told(0, 3), 0);
     }
 
     private static void promise43Stays() {

@@ -102,6 +102,13 @@ public final class SheetsTest {
         DUE.is("33: places beyond the courses", x.pour(1), 4);
         x.sheet(1, SHORTS, 0);
         DUE.is("33: no places", x.pour(1), 0);
+        x.deal(12);
+        x.sheet(1, SHORTS, 24);
+        DUE.is("33: none of twelve", x.pour(1), 0);
+        for (int i = 0; i < 24; i++) {
+            x.mark(1, i, 3);
+        }
+        DUE.is("33: twelve courses", x.pour(1), 12);
         DUE.is("33: NOTHING", x.pour(2), NOTHING);
         DUE.is("33: sheet", x.pour(4), BAD);
         DUE.is("33: sheet", x.pour(-1), BAD);

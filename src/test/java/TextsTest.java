@@ -7,6 +7,7 @@ public final class TextsTest {
         promise27();
         promise28Texts();
         promise28Faults();
+        promise28OneBehindTheOther();
         promise28Depths();
         promise28Full();
         promise29();
@@ -133,6 +134,13 @@ public final class TextsTest {
         fault("wear {1}", 5);
         fault("wear `", 5);
         fault("wear 1:", 6);
+        fault("wear gz", 5);
+        fault("wear gZ", 6);
+        fault("wear g?", 6);
+        fault("wear g`", 6);
+        fault("wear g{", 6);
+        fault("wear 1/", 7);
+        fault("zwear 1", 0);
         String whole = "fee 1" + "+1".repeat(45);
         DUE.is("28: 95 bytes", tell(new KnitStreets(), whole), 0);
         fault(whole + "+", 96);
@@ -143,6 +151,22 @@ public final class TextsTest {
         DUE.is("28: '" + text + "'", tell(x, text), -100 - place);
         DUE.is("28: no text came of '" + text + "'", x.count(5), 0);
         DUE.is("28: the tape is used up", x.count(7), 0);
+    }
+
+    /** What stood in one text is nothing to the next. */
+    private static void promise28OneBehindTheOther() {
+        KnitStreets x = new KnitStreets();
+        String whole = "fee 1" + "+1".repeat(45);
+        for (int i = 0; i < 9; i++) {
+            DUE.is("28: a fault at a word", tell(x, "wear gg"), -105);
+            DUE.is("28: a text behind it", tell(x, "fee " + i), i);
+            DUE.is("28: a fault at the end", tell(x, whole + "+"), -196);
+            DUE.is("28: by that text", x.fee(), i);
+            DUE.is("29: with one number", x.textTold(i, 1), 1);
+        }
+        DUE.is("28: a long one", tell(x, whole), 9);
+        DUE.is("28: by that", x.fee(), 46);
+        DUE.is("29: with 46 numbers", x.textTold(9, 1), 46);
     }
 
     private static void promise28Depths() {
@@ -202,6 +226,9 @@ public final class TextsTest {
         tell(x, "fee 3");
         tell(x, "wear x");
         DUE.is("30: wear", x.why(0), 1);
+        KnitStreets first = new KnitStreets();
+        tell(first, "fine 1");
+        DUE.is("30: the first", first.why(2), 0);
         DUE.is("30: fee, told last", x.why(1), 2);
         DUE.is("30: fine", x.why(2), KnitStreets.NONE);
         DUE.is("30: key", x.why(3), KnitStreets.BAD);

@@ -6,6 +6,7 @@ public final class WaysTest {
     public static void main(String[] args) {
         promise14();
         promise14RoundTheCorner();
+        promise14AndTwelve();
         promise15();
         promise16();
         promise17();
@@ -54,6 +55,22 @@ public final class WaysTest {
         DUE.is("14: but not on 1", x.way(0, 1, 1, 2), 2);
         KnitStreets moss = knitted(DARN, MOSS);
         DUE.is("14: moss as lace", moss.way(0, 7, 0, 0), 2);
+    }
+
+    private static void promise14AndTwelve() {
+        KnitStreets x = knitted(0, 0, 0, 0, 0, 0, 0, 0, 0, 0, 0, 0);
+        DUE.is("14: through twelve", x.way(0, 0, 11, 7), 18);
+        DUE.is("14: and down", x.way(11, 7, 0, 0), 18);
+        DUE.is("15: all", x.reach(11, 3), 96);
+        DUE.is("16: a column", x.pulled(0, 7), 12);
+        worst(x, 0, 0, 12);
+        x.drops(0, 2);
+        x.drops(11, 2);
+        DUE.is("18: two", x.needs(11, 2), 2);
+        for (int course = 0; course < 12; course++) {
+            x.turns(course, course == 5 ? 5 : 2);
+        }
+        DUE.is("14: over the darn there is none", x.way(0, 0, 11, 7), KnitStreets.NONE);
     }
 
     private static void promise15() {
