@@ -966,12 +966,14 @@ final class Model {
         if (sheets[from].floats != sheets[to].floats) {
             return KIND;
         }
-        try {
-            System.arraycopy(sheets[from].places, place, sheets[to].places, at, many);
-            return many;
-        } catch (IndexOutOfBoundsException e) {
+        Integer[] source = sheets[from].places.clone(), target = sheets[to].places;
+        if (place < 0 || at < 0 || many < 0 || (long) place + many > source.length || (long) at + many > target.length) {
             return INDEX;
         }
+        for (int i = 0; i < many; i++) {
+            target[at + i] = source[place + i];
+        }
+        return many;
     }
 
     private int lay(int slot, int thing, int k) {

@@ -141,6 +141,14 @@ public final class TextsTest {
         fault("wear g{", 6);
         fault("wear 1/", 7);
         fault("zwear 1", 0);
+        fault("bear 1", 0);
+        fault("weak 1", 0);
+        fault("tee 1", 0);
+        fault("few 1", 0);
+        fault("line 1", 0);
+        fault("find 1", 0);
+        fault("fe 1", 0);
+        fault("feeg", 0);
         String whole = "fee 1" + "+1".repeat(45);
         DUE.is("28: 95 bytes", tell(new KnitStreets(), whole), 0);
         fault(whole + "+", 96);
