@@ -248,7 +248,8 @@ public final class KnitStreets {
     // ---- what will be
 
     public int behind(int n, int what) {
-        if (n < 0 || n > MOST_BEHIND || what < 0 || what >= 4 + MOST_COURSES) {
+        // COURSES that come in these NIGHTS are only thought: none of them can be named
+        if (n < 0 || n > MOST_BEHIND || what < 0 || what >= 4 && !now.has(what - 4)) {
             return BAD;
         }
         thought.become(now);
@@ -263,8 +264,7 @@ public final class KnitStreets {
             case 3:
                 return thought.held();
             default:
-                // a COURSE that comes in these NIGHTS can be asked for, too
-                return thought.has(what - 4) ? thought.holding(what - 4) : BAD;
+                return thought.holding(what - 4);
         }
     }
 

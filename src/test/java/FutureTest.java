@@ -44,22 +44,26 @@ public final class FutureTest {
         }
     }
 
+    /** COURSES that come in the NIGHTS are only thought: what is asked of one is BAD until it is there. */
     private static void promise19Courses() {
         KnitStreets x = dealt(8, 1), later = dealt(8, 1);
         x.rule(0, 100);
         later.rule(0, 100);
-        later.nights(1);
-        DUE.is("19: a course that comes", x.behind(1, 5), later.told(1, 4));
-        DUE.is("19: one that has not come by then", x.behind(1, 6), KnitStreets.BAD);
-        DUE.is("19: one that is not there", x.behind(0, 5), KnitStreets.BAD);
-        DUE.is("19: the twelfth", x.behind(100, 15), foretold(11));
-    }
-
-    private static int foretold(int course) {
-        KnitStreets later = dealt(8, 1);
-        later.rule(0, 100);
-        later.nights(100);
-        return later.told(course, 4);
+        DUE.is("19: by then there are 12", later.nights(100) >= 0 ? later.count(0) : -1, 12);
+        DUE.is("19: of the one that there is", x.behind(100, 4), later.told(0, 4));
+        for (int course = 1; course < 12; course++) {
+            DUE.is("19: of " + course + ", that comes only in thought", x.behind(100, 4 + course), KnitStreets.BAD);
+            DUE.is("19: of " + course + ", not there at once", x.behind(0, 4 + course), KnitStreets.BAD);
+        }
+        x.nights(1);
+        DUE.is("19: of one that has come", x.behind(99, 5), later.told(1, 4));
+        DUE.is("19: of the one above it", x.behind(99, 6), KnitStreets.BAD);
+        x.deal(12);
+        DUE.is("19: of the twelfth", x.behind(0, 15), x.told(11, 4));
+        DUE.is("19: of a thirteenth", x.behind(0, 16), KnitStreets.BAD);
+        DUE.is("19: of none at all", new KnitStreets().behind(50, 5), KnitStreets.BAD);
+        DUE.is("19: of the first, that is not there", new KnitStreets().behind(100, 4), KnitStreets.BAD);
+        DUE.so("19: without COURSES, the town", new KnitStreets().behind(100, 0) > 0);
     }
 
     private static void promise20() {

@@ -713,11 +713,11 @@ final class Model {
     }
 
     private int behind(int n, int what) {
-        if (out(n, 0, 100)) {
+        if (out(n, 0, 100) || out(what, 0, 3 + now.courses.size())) {
             return BAD;
         }
         Town t = now.after(n);
-        return out(what, 0, 3 + t.courses.size()) ? BAD : what < 4 ? town(t, what) : t.holding(what - 4);
+        return what < 4 ? town(t, what) : t.holding(what - 4);
     }
 
     private int gone(int course, int loop) {
