@@ -35,6 +35,7 @@ public final class FaceTest {
         classes();
         words();
         methods();
+        edges();
         DUE.end();
     }
 
@@ -134,5 +135,18 @@ public final class FaceTest {
             }
         }
         DUE.so("the last method ends", start < 0);
+    }
+
+    /** The list of edges names tests that there are. */
+    private static void edges() throws IOException {
+        Matcher named = Pattern.compile("`(\\w+Test)\\.(\\w+)`").matcher(Files.readString(Path.of("src/test/EDGES.md")));
+        int many = 0;
+        while (named.find()) {
+            Path test = Path.of("src/test/java", named.group(1) + ".java");
+            DUE.so("there is " + named.group(), Files.exists(test)
+                    && Files.readString(test).contains("void " + named.group(2) + "("));
+            many++;
+        }
+        DUE.so("edges are listed", many > 100);
     }
 }
