@@ -28,6 +28,7 @@ public final class EdgesTest {
         namesByKey();
         blanks();
         tapeToTheLastByte();
+        trimmedBytesAreGone();
         dividesTowardsZero();
         placesToTheLast();
         copiesWholeRows();
@@ -404,6 +405,34 @@ public final class EdgesTest {
         DUE.is("28: bytes above 127", x.text(), -100);
         DUE.is("28: bytes above 127 behind a text", TextsTest.tell(x, "fee 1\u0080"), -105);
         DUE.is("28: byte 160 is no blank", TextsTest.tell(x, "fee\u00a01"), -103);
+    }
+
+    /** Twelve bytes are fed, all behind the first n are trimmed: what text() answers. */
+    private static int trimmed(KnitStreets x, String twelve, int n) {
+        TextsTest.feed(x, twelve);
+        x.trim(n);
+        return x.text();
+    }
+
+    private static void trimmedBytesAreGone() {
+        KnitStreets x = new KnitStreets();
+        DUE.is("27: of a number its first digit", trimmed(x, "fee 12345678", 5), 0);
+        DUE.is("24: that digit", x.fee(), 1);
+        DUE.is("27: of a number four digits", trimmed(x, "fee 12345678", 8), 1);
+        DUE.is("24: these four", x.fee(), 1234);
+        DUE.is("27: of a number five digits", trimmed(x, "fee 12345678", 9), -104);
+        DUE.is("27: of a word one letter", trimmed(x, "fee rrrrrrrr", 5), 2);
+        DUE.is("27: of a word the KEY, then the end", trimmed(x, "feesfeesfees", 3), -103);
+        DUE.is("27: blanks that are gone are not the end", trimmed(x, "fee         ", 5), -105);
+        DUE.is("27: none of them stands", trimmed(x, "fee         ", 3), -103);
+        DUE.is("27: all are gone", trimmed(x, "            ", 0), -100);
+        DUE.is("27: one blank stands", trimmed(x, "            ", 1), -101);
+        DUE.is("27: signs that are gone are no FAULT", trimmed(x, "fee 5+))))))", 5), 3);
+        TextsTest.feed(x, "fee 99999999");
+        x.trim(5);
+        DUE.is("26: more come behind those that stand", x.feed(0x2B312020, 0x20202020, 0x20202020), 17);
+        DUE.is("28: they are one text", x.text(), 4);
+        DUE.is("24: 9 and 1", x.fee(), 10);
     }
 
     private static void dividesTowardsZero() {
